@@ -1,0 +1,262 @@
+import java.util.Random;
+
+/** Runs of up to 512 calls, the same in every run of the test: TrueLedger answers as PlainModel does. */
+public final class ModelTest {
+    private static final int RUNS = 400, CALLS = 512;
+    private static final String[] PARTS = {"s0:l+1,p+1", "r0:l-1,p-1", "d0:c+p,p=0", "b0:c+p,p=0", "d0:c+p", "a0:p=0",
+        "s0:c+1", "r0:c-1", "s1:c+1", "r1:c-1", "s0:c+1,m1", "s1:c+2,m0", "r0:c-1,m1", "k0:m1", "k1:m0", "t0:c+c",
+        "t1:c=l", "x0:p=c,l+p", "x0:c=0", "t0:c+9,c+9,c+9", "a1:c-l,m0", "d1:l=9,l+l,c+l", "b1:c-c", "b0:m1,m1",
+        "k0:p=c", "t0:l=c", "b1:c+p,p=0", "x1:m1,c-9,l+l"};
+
+    private final Random random;
+    private final TrueLedger ledger = new TrueLedger();
+    private final PlainModel model = new PlainModel();
+    private final int run;
+    private int calls = 0;
+    private int wrong = 0;
+
+    private ModelTest(int run) {
+        this.run = run;
+        this.random = new Random(7919L * run + 1);
+    }
+
+    public static void main(String[] args) {
+        int wrong = 0;
+        for (int run = 0; run < RUNS && wrong == 0; run++) {
+            wrong += new ModelTest(run).play();
+        }
+        System.out.println(wrong == 0 ? "ModelTest: " + RUNS + " runs as the model" : wrong + " answers are not as due");
+        if (wrong != 0) System.exit(1);
+    }
+
+    private void due(String call, long got, long want) {
+        calls++;
+        if (got != want) {
+            wrong++;
+            System.out.println("run " + run + ", call " + calls + ": " + call + " answered " + got + ", due is " + want);
+        }
+    }
+
+    private int play() {
+        int texts = 1 + random.nextInt(4);
+        for (int i = 0; i < texts; i++) typeText(random.nextInt(4));
+        int shops = random.nextInt(4);
+        for (int i = 0; i < shops; i++) due("counter", call("counter", random.nextInt(4)), last);
+        while (calls < CALLS && wrong == 0) {
+            int kind = random.nextInt(100);
+            if (kind < 20) versions();
+            else if (kind < 50) counters();
+            else if (kind < 60) paid();
+            else if (kind < 72) judgments();
+            else if (kind < 78) looking();
+            else if (kind < 97) sheets();
+            else due("digest()", ledger.digest(), model.digest());
+        }
+        due("digest()", ledger.digest(), model.digest());
+        return wrong;
+    }
+
+    private long last;
+
+    /** Calls both by name; the model's answer is in last. */
+    private long call(String name, int... a) {
+        switch (name) {
+            case "type": last = model.type(a[0], a[1]); return ledger.type(a[0], a[1]);
+            case "wipe": last = model.wipe(a[0]); return ledger.wipe(a[0]);
+            case "fault": last = model.fault(a[0]); return ledger.fault(a[0]);
+            case "acts": last = model.acts(a[0], a[1]); return ledger.acts(a[0], a[1]);
+            case "differ": last = model.differ(a[0], a[1]); return ledger.differ(a[0], a[1]);
+            case "run": last = model.run(a[0], a[1], a[2], a[3], a[4], a[5]);
+                return ledger.run(a[0], a[1], a[2], a[3], a[4], a[5]);
+            case "parting": last = model.parting(a[0], a[1], a[2]); return ledger.parting(a[0], a[1], a[2]);
+            case "event": last = model.event(a[0], a[1], a[2], a[3]); return ledger.event(a[0], a[1], a[2], a[3]);
+            case "mended": last = model.mended(a[0], a[1]); return ledger.mended(a[0], a[1]);
+            case "counter": last = model.counter(a[0]); return ledger.counter(a[0]);
+            case "log": last = model.log(a[0], a[1], a[2]); return ledger.log(a[0], a[1], a[2]);
+            case "claim": last = model.claim(a[0], a[1], a[2]); return ledger.claim(a[0], a[1], a[2]);
+            case "about": last = model.about(a[0], a[1]); return ledger.about(a[0], a[1]);
+            case "tell": last = model.tell(a[0], a[1], a[2]); return ledger.tell(a[0], a[1], a[2]);
+            case "logged": last = model.logged(a[0], a[1]); return ledger.logged(a[0], a[1]);
+            case "fills": last = model.fills(a[0], a[1]); return ledger.fills(a[0], a[1]);
+            case "causes": last = model.causes(a[0]); return ledger.causes(a[0]);
+            case "settling": last = model.settling(a[0], a[1]); return ledger.settling(a[0], a[1]);
+            case "like": last = model.like(a[0], a[1]); return ledger.like(a[0], a[1]);
+            case "pay": last = model.pay(a[0], a[1], a[2]); return ledger.pay(a[0], a[1], a[2]);
+            case "interest": last = model.interest(a[0]); return ledger.interest(a[0]);
+            case "owed": last = model.owed(a[0], a[1]); return ledger.owed(a[0], a[1]);
+            case "judgment": last = model.judgment(a[0], a[1]); return ledger.judgment(a[0], a[1]);
+            case "ground": last = model.ground(a[0], a[1] == 1); return ledger.ground(a[0], a[1] == 1);
+            case "standing": last = model.standing(); return ledger.standing();
+            case "falling": last = model.falling(a[0]); return ledger.falling(a[0]);
+            case "order": last = model.order(a[0], a[1]); return ledger.order(a[0], a[1]);
+            case "sheet": last = model.sheet(a[0], a[1], a[2]); return ledger.sheet(a[0], a[1], a[2]);
+            case "lose": last = model.lose(a[0]); return ledger.lose(a[0]);
+            case "put": last = model.put(a[0], a[1], a[2], a[3]); return ledger.put(a[0], a[1], a[2], a[3]);
+            case "get": last = model.get(a[0], a[1], a[2]); return ledger.get(a[0], a[1], a[2]);
+            case "copy": last = model.copy(a[0], a[1], a[2], a[3], a[4]);
+                return ledger.copy(a[0], a[1], a[2], a[3], a[4]);
+            case "write": last = model.write(a[0], a[1]); return ledger.write(a[0], a[1]);
+            default: last = model.count(a[0]); return ledger.count(a[0]);
+        }
+    }
+
+    private void ask(String name, int... arguments) {
+        if (calls >= CALLS) return;
+        StringBuilder told = new StringBuilder(name);
+        for (int argument : arguments) told.append(' ').append(argument);
+        long got = call(name, arguments);
+        due(told.toString(), got, last);
+    }
+
+    /** From the least to the most, now and then a little or far beyond. */
+    private int some(int least, int most) {
+        int kind = random.nextInt(60);
+        if (kind == 0) return least - 1;
+        if (kind == 1) return most + 1;
+        if (kind == 2) return random.nextBoolean() ? Integer.MIN_VALUE : Integer.MAX_VALUE;
+        return least + random.nextInt(most - least + 1);
+    }
+
+    private int version() {
+        return some(0, 3);
+    }
+
+    private int shop() {
+        int known = model.shops.size();
+        return known == 0 ? some(0, 1) : some(0, known - 1);
+    }
+
+    private int lines() {
+        return random.nextBoolean() ? some(0, 65535) : random.nextInt(65536) & random.nextInt(65536) & random.nextInt(65536);
+    }
+
+    private void typeText(int version) {
+        StringBuilder text = new StringBuilder();
+        int parts = 1 + random.nextInt(5);
+        for (int i = 0; i < parts; i++) {
+            text.append(i > 0 ? ";" : "").append(PARTS[random.nextInt(PARTS.length)]);
+        }
+        if (random.nextInt(8) == 0) text.setCharAt(random.nextInt(text.length()), (char) random.nextInt(256));
+        if (random.nextInt(12) == 0) text.append("lpc+-=m01;:,srb".charAt(random.nextInt(15)));
+        if (model.texts[version].length() > 0 && random.nextInt(4) > 0) ask("wipe", version);
+        for (int i = 0; i < text.length(); i++) ask("type", version, text.charAt(i));
+    }
+
+    private void versions() {
+        switch (random.nextInt(12)) {
+            case 0: ask("type", version(), "lpc+-=m01;:,srkdaxtb9".charAt(random.nextInt(21))); break;
+            case 1: if (random.nextInt(3) == 0) ask("wipe", version()); break;
+            case 2: ask("fault", version()); break;
+            case 3: ask("acts", version(), some(0, 15)); break;
+            case 4: ask("differ", version(), version()); break;
+            case 5: case 6: ask("run", version(), version(), lines(), some(0, 3), some(0, 8), some(0, 5)); break;
+            case 7: ask("parting", version(), version(), lines()); break;
+            case 8: partingAndEvents(version(), version(), lines()); break;
+            case 9: ask("mended", version(), version()); break;
+            case 10: ask("event", version(), version(), lines(), some(0, 5)); break;
+            default: if (random.nextInt(3) == 0) typeText(random.nextInt(4)); break;
+        }
+    }
+
+    private void partingAndEvents(int version, int other, int lines) {
+        ask("parting", version, other, lines);
+        for (int i = 0; i < 6; i++) ask("event", version, other, lines, i);
+    }
+
+    private void counters() {
+        switch (random.nextInt(12)) {
+            case 0: ask("counter", version()); break;
+            case 1: case 2: logSome(); break;
+            case 3: ask("claim", shop(), some(-3, 3), some(-3, 6)); break;
+            case 4: ask("claim", shop(), some(-99, 99), some(-99, 99)); break;
+            case 5: ask("about", shop(), some(0, 8)); break;
+            case 6: ask("tell", shop(), some(0, 2), some(0, random.nextBoolean() ? 50 : 99)); break;
+            case 7: ask("logged", shop(), some(0, 11)); break;
+            case 8: ask("fills", shop(), some(0, 3)); break;
+            case 9: ask("causes", shop()); break;
+            case 10: ask("settling", shop(), some(0, 1)); break;
+            default: ask("like", shop(), some(1, random.nextBoolean() ? 3 : 12)); break;
+        }
+    }
+
+    private void logSome() {
+        int s = random.nextInt(4), n = random.nextInt(13), lost = random.nextInt(4), shop = shop();
+        ask("sheet", s, 0, n + random.nextInt(2));
+        for (int i = 0; i < n; i++) {
+            boolean isLost = lost > 0 && random.nextInt(3) == 0;
+            if (isLost) lost--;
+            ask("put", s, 0, i, isLost ? (random.nextBoolean() ? -1 : 8) : random.nextInt(8));
+        }
+        ask("log", shop, s, n);
+        if (random.nextBoolean()) ask("claim", shop, some(-2, 2), some(-2, 3));
+        ask("fills", shop, some(0, 3));
+        ask("settling", shop, random.nextInt(2));
+        ask("like", shop, some(1, 3));
+    }
+
+    private void paid() {
+        switch (random.nextInt(4)) {
+            case 0: ask("pay", shop(), some(0, 399), some(1, 1000)); break;
+            case 1: ask("interest", some(0, 100)); break;
+            case 2: ask("owed", shop(), some(0, 399)); break;
+            default: ask("owed", -1, some(0, 399)); break;
+        }
+    }
+
+    private void judgments() {
+        int sparse = random.nextInt(1 << 24) & random.nextInt(1 << 24) & random.nextInt(1 << 24);
+        switch (random.nextInt(6)) {
+            case 0: ask("judgment", sparse & 0x3FFFF & random.nextInt(1 << 24), random.nextBoolean() ? 0 : sparse); break;
+            case 1: ask("judgment", some(0, (1 << 24) - 1), some(0, (1 << 24) - 1)); break;
+            case 2: ask("ground", some(0, 7), random.nextInt(2)); break;
+            case 3: ask("standing"); break;
+            default: ask("falling", some(0, 7)); break;
+        }
+    }
+
+    private void looking() {
+        int all = (1 << model.shops.size()) - 1;
+        int some = random.nextInt(5) == 0 ? some(0, 4095) : random.nextInt(4096) & all;
+        if (Integer.bitCount(some) > 7 && random.nextInt(6) > 0) some &= random.nextInt(4096);
+        ask("order", some, some(-1, 7));
+    }
+
+    private void sheets() {
+        switch (random.nextInt(9)) {
+            case 0: ask("sheet", some(0, 3), some(0, 2), some(0, random.nextBoolean() ? 6 : 40)); break;
+            case 1: if (random.nextInt(4) == 0) ask("lose", some(0, 3)); break;
+            case 2: putSome(random.nextInt()); break;
+            case 3: putSome(random.nextInt(8)); break;
+            case 4: getSome(); break;
+            case 5: case 6: copySome(); break;
+            case 7: ask("write", shop(), some(0, 3)); break;
+            default: ask("count", some(0, 8)); break;
+        }
+    }
+
+    private int typeOf(int s) {
+        boolean isKnown = s >= 0 && s < 4 && model.sheets[s] != null;
+        return isKnown && random.nextInt(8) > 0 ? model.sheets[s].type : some(0, 2);
+    }
+
+    private int itemOf(int s) {
+        boolean isKnown = s >= 0 && s < 4 && model.sheets[s] != null && model.sheets[s].items.length > 0;
+        return isKnown ? some(0, model.sheets[s].items.length - 1) : some(0, 5);
+    }
+
+    private void putSome(int v) {
+        int s = some(0, 3);
+        ask("put", s, typeOf(s), itemOf(s), v);
+    }
+
+    private void getSome() {
+        int s = some(0, 3);
+        ask("get", s, typeOf(s), itemOf(s));
+    }
+
+    private void copySome() {
+        int s = some(0, 3), t = random.nextBoolean() ? s : some(0, 3);
+        ask("copy", s, itemOf(s), t, itemOf(t), some(0, 4));
+        for (int i = 0; i < 6; i++) if (t >= 0 && t < 4) ask("get", t, typeOf(t), i);
+    }
+}
