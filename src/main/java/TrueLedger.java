@@ -168,7 +168,7 @@ public final class TrueLedger {
         second.read();
         int unlike = 0;
         for (int line = 0; line < LINES; line++) {
-            if (!first.tellsAlike(second, line)) {
+            if (!first.tellsAlike(line, second, line)) {
                 unlike |= 1 << line;
             }
         }
@@ -661,13 +661,16 @@ public final class TrueLedger {
             }
         }
 
-        boolean tellsAlike(Version other, int line) {
-            int size = actsTo[line] - actsFrom[line];
-            if (other.actsTo[line] - other.actsFrom[line] != size) {
+        /** Whether the ACTS of a LINE and of another's are the same text. */
+        boolean tellsAlike(int line, Version other, int otherLine) {
+            int begin = actsFrom[line];
+            int otherBegin = other.actsFrom[otherLine];
+            int size = actsTo[line] - begin;
+            if (other.actsTo[otherLine] - otherBegin != size) {
                 return false;
             }
             for (int i = 0; i < size; i++) {
-                if (text[actsFrom[line] + i] != other.text[other.actsFrom[line] + i]) {
+                if (text[begin + i] != other.text[otherBegin + i]) {
                     return false;
                 }
             }
@@ -1086,6 +1089,8 @@ public final class TrueLedger {
         private final int[] plain = new int[MOST_LOGGED + 1];
         private final int[][] posted = new int[MOST_LOGGED + 1][MOST_POSTED];
         private final int[] postedCount = new int[MOST_LOGGED + 1];
+        // By EVENT: the least that does the same as it in every STATE.
+        private final int[] likeEvent = new int[EVENTS];
         private final byte[] causesOfFill = new byte[MOST_FILLS];
         private final byte[] causesOfCell = new byte[MOST_FILLS];
         private int length = 0;
@@ -1095,13 +1100,14 @@ public final class TrueLedger {
 
         void judge(Counter it, Mix mix) {
             begin(it);
+            findLikeEvents(mix.first);
             int all = 1 << 3 * lost;
             Arrays.fill(it.tally, 0);
             it.tally[0] = all;
             it.allCauses = 0;
             for (int fill = 0; fill < all; fill++) {
-                give(fill);
-                int found = causesOfRow(it, mix);
+                int like = likeFill(fill);
+                int found = like < fill ? causesOfFill[like] : causesOfRow(fill, it, mix);
                 causesOfFill[fill] = (byte) found;
                 it.allCauses |= found;
                 it.tally[1] += found & 1;
@@ -1128,6 +1134,28 @@ public final class TrueLedger {
             postedUpTo = 0;
         }
 
+        /** EVENTS that move the same coins and are told alike in both MODES do the same. */
+        private void findLikeEvents(Version text) {
+            for (int event = 0; event < EVENTS; event++) {
+                int like = 0;
+                while (like < event && !(coinsOf(like) == coinsOf(event)
+                    && text.tellsAlike(2 * like, text, 2 * event)
+                    && text.tellsAlike(2 * like + 1, text, 2 * event + 1))) {
+                    like++;
+                }
+                likeEvent[event] = like;
+            }
+        }
+
+        /** The least FILL that has like EVENTS: it has the same CAUSES, and they have been found already. */
+        private int likeFill(int fill) {
+            int like = 0;
+            for (int shift = 0; shift < 3 * lost; shift += 3) {
+                like |= likeEvent[fill >> shift & 7] << shift;
+            }
+            return like;
+        }
+
         private int shiftOf(int whichLost) {
             return 3 * (lost - 1 - whichLost);
         }
@@ -1143,7 +1171,8 @@ public final class TrueLedger {
             }
         }
 
-        private int causesOfRow(Counter it, Mix mix) {
+        private int causesOfRow(int fill, Counter it, Mix mix) {
+            give(fill);
             int above = -it.drawer;
             for (int i = 0; i < length; i++) {
                 above += coinsOf(row[i]);

@@ -2,22 +2,33 @@ import java.util.Random;
 
 /** Runs of up to 512 calls, the same in every run of the test: TrueLedger answers as PlainModel does. */
 public final class ModelTest {
-    private static final int RUNS = 400, CALLS = 512;
+    private static final int RUNS = 600, CALLS = 512;
     private static final String[] PARTS = {"s0:l+1,p+1", "r0:l-1,p-1", "d0:c+p,p=0", "b0:c+p,p=0", "d0:c+p", "a0:p=0",
         "s0:c+1", "r0:c-1", "s1:c+1", "r1:c-1", "s0:c+1,m1", "s1:c+2,m0", "r0:c-1,m1", "k0:m1", "k1:m0", "t0:c+c",
         "t1:c=l", "x0:p=c,l+p", "x0:c=0", "t0:c+9,c+9,c+9", "a1:c-l,m0", "d1:l=9,l+l,c+l", "b1:c-c", "b0:m1,m1",
         "k0:p=c", "t0:l=c", "b1:c+p,p=0", "x1:m1,c-9,l+l"};
 
+    // Programs that never part, and parts that spoil them, some only by a row of several EVENTS.
+    private static final String[] SOUND = {"s0:c+1;r0:c-1;s1:c+1;r1:c-1", "s0:l+1,p+1;r0:l-1,p-1;d0:c+p,p=0;b0:c+p,p=0",
+        "s0:c+1;r0:c-1;s1:c+1;r1:c-1;k0:m1;k1:m0", "s0:p+1;r0:p-1;d0:c=p;b0:c=p", "s0:c+1;r0:c-1",
+        "s0:c+1;r0:c-1;s1:c+1;r1:c-1;k0:m1;x1:l=1;d1:p=l", "s0:c+1;r0:c-1;s1:c+1;r1:c-1;k0:l=1;d0:p=l"};
+    private static final String[] SPOILERS = {"k0:l=1", "d0:p=l", "t0:c+p", "t0:c+l", "x0:l=2", "k0:m1", "k1:l=1", "d1:p=l",
+        "t1:c+p", "x1:c-p", "a1:m0", "a0:c=9", "a0:l+1", "b0:c+p", "b1:c+p", "s1:c+1", "r1:c-1", "x0:p+1", "a1:c-l", "t1:c=l",
+        "r0:c-1,m1", "s0:c+1,m1", "d0:m1", "k0:c+c", "a0:c-p,c+p", "x0:c+9,c+9,c+9,c+9,c+9,c+9,c+9,c+9,c+9,c+9,c+9"};
+
     private final Random random;
     private final TrueLedger ledger = new TrueLedger();
     private final PlainModel model = new PlainModel();
     private final int run;
+    // Which sound program a run is about: its VERSIONS are mostly near one another then.
+    private final int kind;
     private int calls = 0;
     private int wrong = 0;
 
     private ModelTest(int run) {
         this.run = run;
         this.random = new Random(7919L * run + 1);
+        this.kind = random.nextInt(SOUND.length);
     }
 
     public static void main(String[] args) {
@@ -39,7 +50,7 @@ public final class ModelTest {
 
     private int play() {
         int texts = 1 + random.nextInt(4);
-        for (int i = 0; i < texts; i++) typeText(random.nextInt(4));
+        for (int i = 0; i < texts; i++) typeText(i);
         int shops = random.nextInt(4);
         for (int i = 0; i < shops; i++) due("counter", call("counter", random.nextInt(4)), last);
         while (calls < CALLS && wrong == 0) {
@@ -131,12 +142,14 @@ public final class ModelTest {
     }
 
     private void typeText(int version) {
-        StringBuilder text = new StringBuilder();
-        int parts = 1 + random.nextInt(5);
-        for (int i = 0; i < parts; i++) {
-            text.append(i > 0 ? ";" : "").append(PARTS[random.nextInt(PARTS.length)]);
+        boolean isSound = random.nextInt(4) > 0;
+        StringBuilder text = new StringBuilder(isSound ? SOUND[kind] : PARTS[random.nextInt(PARTS.length)]);
+        String[] parts = isSound ? SPOILERS : PARTS;
+        int more = random.nextInt(5);
+        for (int i = 0; i < more; i++) {
+            text.append(";").append(parts[random.nextInt(parts.length)]);
         }
-        if (random.nextInt(8) == 0) text.setCharAt(random.nextInt(text.length()), (char) random.nextInt(256));
+        if (random.nextInt(16) == 0) text.setCharAt(random.nextInt(text.length()), (char) random.nextInt(256));
         if (random.nextInt(12) == 0) text.append("lpc+-=m01;:,srb".charAt(random.nextInt(15)));
         if (model.texts[version].length() > 0 && random.nextInt(4) > 0) ask("wipe", version);
         for (int i = 0; i < text.length(); i++) ask("type", version, text.charAt(i));
@@ -149,13 +162,22 @@ public final class ModelTest {
             case 2: ask("fault", version()); break;
             case 3: ask("acts", version(), some(0, 15)); break;
             case 4: ask("differ", version(), version()); break;
-            case 5: case 6: ask("run", version(), version(), lines(), some(0, 3), some(0, 8), some(0, 5)); break;
+            case 5: ask("run", version(), version(), lines(), some(0, 3), some(0, 8), some(0, 5)); break;
+            case 6: runSome(); break;
             case 7: ask("parting", version(), version(), lines()); break;
             case 8: partingAndEvents(version(), version(), lines()); break;
             case 9: ask("mended", version(), version()); break;
             case 10: ask("event", version(), version(), lines(), some(0, 5)); break;
             default: if (random.nextInt(3) == 0) typeText(random.nextInt(4)); break;
         }
+    }
+
+    private void runSome() {
+        int s = random.nextInt(4), type = random.nextInt(3), n = random.nextInt(9);
+        ask("sheet", s, type, n);
+        for (int i = 0; i < n; i++) ask("put", s, type, i, i == n - 1 && random.nextBoolean() ? 7 : random.nextInt(8));
+        int version = version(), other = version(), lines = lines();
+        for (int what = 0; what < 6; what++) ask("run", version, other, lines, s, n, what);
     }
 
     private void partingAndEvents(int version, int other, int lines) {
@@ -188,10 +210,25 @@ public final class ModelTest {
             ask("put", s, 0, i, isLost ? (random.nextBoolean() ? -1 : 8) : random.nextInt(8));
         }
         ask("log", shop, s, n);
-        if (random.nextBoolean()) ask("claim", shop, some(-2, 2), some(-2, 3));
+        if (random.nextBoolean()) claimNearTruth(shop);
         ask("fills", shop, some(0, 3));
         ask("settling", shop, random.nextInt(2));
         ask("like", shop, some(1, 3));
+        if (random.nextBoolean()) ask("pay", shop, some(0, 399), some(1, 1000));
+        ask("owed", shop, 399);
+    }
+
+    /** Claims what one FILL ends with, or a little beside it. */
+    private void claimNearTruth(int shop) {
+        if (!model.isShop(shop)) return;
+        PlainModel.Shop it = model.shops.get(shop);
+        PlainModel.State state = new PlainModel.State();
+        for (int event : it.log) {
+            PlainModel.step(state, model.mix(it.version, it.version, 0), event < 0 ? random.nextInt(8) : event);
+        }
+        int beside = random.nextInt(3);
+        int drawer = state.drawer + (beside == 1 ? random.nextInt(3) - 1 : 0);
+        ask("claim", shop, drawer, state.registers[2] + (beside == 2 ? random.nextInt(9) - 4 : 0));
     }
 
     private void paid() {
