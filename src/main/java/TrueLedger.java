@@ -584,7 +584,8 @@ public final class TrueLedger {
     private int countBytes() {
         int sum = 0;
         for (int v = 0; v < VERSIONS; v++) {
-            sum += versions[v].length;
+            Version text = versionAt(v);
+            sum += text == null ? 0 : text.length;
         }
         return sum;
     }

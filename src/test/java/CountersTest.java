@@ -13,6 +13,7 @@ public final class CountersTest {
         promise16();
         promise17and18();
         fromAfar();
+        fromAfarAnywhere();
         judgedAnew();
         promise19();
         promise20();
@@ -188,6 +189,23 @@ public final class CountersTest {
             int n = Math.abs(ledger);
             boolean isPosted = n >= 1 && n <= 3 || n == 4 || n == 6;
             fills(x, "by way of another register, " + ledger, 1, ledger == 0 ? 1 : 0, 0, isPosted ? 1 : 0);
+        }
+    }
+
+    /** A row posted at any of thirteen places ends otherwise than at each other one. */
+    private static void fromAfarAnywhere() {
+        TrueLedger x = new TrueLedger();
+        x.counter(0);
+        Due.text(x, 0, "t0:l+c,p+l;b0:c+c,c+c,c+l");
+        Due.log(x, 0, TICK, TICK, TICK, TICK, TICK, TICK, TICK, TICK, TICK, TICK, TICK, BALANCE);
+        for (int ledger = -46; ledger <= 46; ledger++) {
+            int n = Math.abs(ledger);
+            boolean isPosted = n >= 1 && n <= 3;
+            for (int behind = 0; behind <= 11; behind++) {
+                for (int d = 1; d <= 3; d++) isPosted |= n == d * (15 - behind);
+            }
+            x.claim(0, 0, ledger);
+            DUE.is(17, "posted to " + ledger, x.fills(0, 3), isPosted ? 1 : 0);
         }
     }
 

@@ -165,7 +165,7 @@ public final class ModelTest {
             case 5: ask("run", version(), version(), lines(), some(0, 3), some(0, 8), some(0, 5)); break;
             case 6: runSome(); break;
             case 7: ask("parting", version(), version(), lines()); break;
-            case 8: partingAndEvents(version(), version(), lines()); break;
+            case 8: if (random.nextBoolean()) nearMixes(); else partingAndEvents(version(), version(), lines()); break;
             case 9: ask("mended", version(), version()); break;
             case 10: ask("event", version(), version(), lines(), some(0, 5)); break;
             default: if (random.nextInt(3) == 0) typeText(random.nextInt(4)); break;
@@ -183,6 +183,15 @@ public final class ModelTest {
     private void partingAndEvents(int version, int other, int lines) {
         ask("parting", version, other, lines);
         for (int i = 0; i < 6; i++) ask("event", version, other, lines, i);
+    }
+
+    /** MIXES that are told by small numbers, one after another: none may be taken for another. */
+    private void nearMixes() {
+        for (int i = 0; i < 12; i++) {
+            int version = random.nextInt(4), other = random.nextInt(4), lines = random.nextInt(8);
+            if (random.nextBoolean()) ask("parting", version, other, lines);
+            else ask("event", version, other, lines, random.nextInt(2));
+        }
     }
 
     private void counters() {

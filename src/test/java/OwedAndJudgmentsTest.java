@@ -7,6 +7,7 @@ public final class OwedAndJudgmentsTest {
     public static void main(String[] args) {
         promise21and22();
         promise23();
+        owedForForty();
         promise24to26();
         promise27();
         promise28();
@@ -73,6 +74,14 @@ public final class OwedAndJudgmentsTest {
         for (int[] a : bad) DUE.is(23, "bad", x.owed(a[0], a[1]), -2);
     }
 
+    private static void owedForForty() {
+        TrueLedger x = shortAndClear();
+        for (int n = 0; n < 40; n++) x.pay(0, 399, n + 1);
+        DUE.is(23, "forty", x.owed(0, 399), 820);
+        DUE.is(23, "forty, of all", x.owed(-1, 399), 820);
+        DUE.is(23, "a day ahead", x.owed(0, 398), 0);
+    }
+
     private static void notOwed(TrueLedger x) {
         x.claim(1, -1, 0);
         DUE.is(23, "short, but by a hand", x.owed(1, 399), 0);
@@ -135,6 +144,7 @@ public final class OwedAndJudgmentsTest {
 
     private static void promise27() {
         TrueLedger x = new TrueLedger();
+        DUE.is(24, "on all that can be", new TrueLedger().judgment(0xFFFFFF, 0xFFFFFF), 0);
         x.judgment(1, 0);
         x.judgment(1 << 8, 6);
         x.judgment(0, 1 << 9 | 8);

@@ -264,6 +264,8 @@ public final class VersionsTest {
         DUE.is(9, "event behind mended", x.event(0, 0, 0, 1), BALANCE);
         Due.text(x, 0, "s0:c+1");
         DUE.is(9, "event of the new text", x.event(0, 0, 0, 0), REFUND);
+        for (char b : ";r0:c-1".toCharArray()) x.type(0, b);
+        DUE.is(8, "parting of the longer text", x.parting(0, 0, 0), -1);
         x.wipe(0);
         DUE.is(9, "event of the wiped text", x.event(0, 0, 0, 0), SELL);
     }
