@@ -2,7 +2,7 @@ import java.util.Random;
 
 /** Runs of up to 512 calls, the same in every run of the test: TrueLedger answers as PlainModel does. */
 public final class ModelTest {
-    private static final int RUNS = 600, CALLS = 512;
+    private static final int RUNS = 600;
     private static final String[] PARTS = {"s0:l+1,p+1", "r0:l-1,p-1", "d0:c+p,p=0", "b0:c+p,p=0", "d0:c+p", "a0:p=0",
         "s0:c+1", "r0:c-1", "s1:c+1", "r1:c-1", "s0:c+1,m1", "s1:c+2,m0", "r0:c-1,m1", "k0:m1", "k1:m0", "t0:c+c",
         "t1:c=l", "x0:p=c,l+p", "x0:c=0", "t0:c+9,c+9,c+9", "a1:c-l,m0", "d1:l=9,l+l,c+l", "b1:c-c", "b0:m1,m1",
@@ -17,16 +17,14 @@ public final class ModelTest {
         "r0:c-1,m1", "s0:c+1,m1", "d0:m1", "k0:c+c", "a0:c-p,c+p", "x0:c+9,c+9,c+9,c+9,c+9,c+9,c+9,c+9,c+9,c+9,c+9"};
 
     private final Random random;
-    private final TrueLedger ledger = new TrueLedger();
-    private final PlainModel model = new PlainModel();
-    private final int run;
+    private final Both both;
+    private final PlainModel model;
     // Which sound program a run is about: its VERSIONS are mostly near one another then.
     private final int kind;
-    private int calls = 0;
-    private int wrong = 0;
 
     private ModelTest(int run) {
-        this.run = run;
+        this.both = new Both("run " + run);
+        this.model = both.model;
         this.random = new Random(7919L * run + 1);
         this.kind = random.nextInt(SOUND.length);
     }
@@ -40,20 +38,12 @@ public final class ModelTest {
         if (wrong != 0) System.exit(1);
     }
 
-    private void due(String call, long got, long want) {
-        calls++;
-        if (got != want) {
-            wrong++;
-            System.out.println("run " + run + ", call " + calls + ": " + call + " answered " + got + ", due is " + want);
-        }
-    }
-
     private int play() {
         int texts = 1 + random.nextInt(4);
         for (int i = 0; i < texts; i++) typeText(i);
         int shops = random.nextInt(4);
-        for (int i = 0; i < shops; i++) due("counter", call("counter", random.nextInt(4)), last);
-        while (calls < CALLS && wrong == 0) {
+        for (int i = 0; i < shops; i++) ask("counter", random.nextInt(4));
+        while (both.goesOn()) {
             int kind = random.nextInt(100);
             if (kind < 20) versions();
             else if (kind < 50) counters();
@@ -61,62 +51,13 @@ public final class ModelTest {
             else if (kind < 72) judgments();
             else if (kind < 78) looking();
             else if (kind < 97) sheets();
-            else due("digest()", ledger.digest(), model.digest());
+            else ask("digest");
         }
-        due("digest()", ledger.digest(), model.digest());
-        return wrong;
-    }
-
-    private long last;
-
-    /** Calls both by name; the model's answer is in last. */
-    private long call(String name, int... a) {
-        switch (name) {
-            case "type": last = model.type(a[0], a[1]); return ledger.type(a[0], a[1]);
-            case "wipe": last = model.wipe(a[0]); return ledger.wipe(a[0]);
-            case "fault": last = model.fault(a[0]); return ledger.fault(a[0]);
-            case "acts": last = model.acts(a[0], a[1]); return ledger.acts(a[0], a[1]);
-            case "differ": last = model.differ(a[0], a[1]); return ledger.differ(a[0], a[1]);
-            case "run": last = model.run(a[0], a[1], a[2], a[3], a[4], a[5]);
-                return ledger.run(a[0], a[1], a[2], a[3], a[4], a[5]);
-            case "parting": last = model.parting(a[0], a[1], a[2]); return ledger.parting(a[0], a[1], a[2]);
-            case "event": last = model.event(a[0], a[1], a[2], a[3]); return ledger.event(a[0], a[1], a[2], a[3]);
-            case "mended": last = model.mended(a[0], a[1]); return ledger.mended(a[0], a[1]);
-            case "counter": last = model.counter(a[0]); return ledger.counter(a[0]);
-            case "log": last = model.log(a[0], a[1], a[2]); return ledger.log(a[0], a[1], a[2]);
-            case "claim": last = model.claim(a[0], a[1], a[2]); return ledger.claim(a[0], a[1], a[2]);
-            case "about": last = model.about(a[0], a[1]); return ledger.about(a[0], a[1]);
-            case "tell": last = model.tell(a[0], a[1], a[2]); return ledger.tell(a[0], a[1], a[2]);
-            case "logged": last = model.logged(a[0], a[1]); return ledger.logged(a[0], a[1]);
-            case "fills": last = model.fills(a[0], a[1]); return ledger.fills(a[0], a[1]);
-            case "causes": last = model.causes(a[0]); return ledger.causes(a[0]);
-            case "settling": last = model.settling(a[0], a[1]); return ledger.settling(a[0], a[1]);
-            case "like": last = model.like(a[0], a[1]); return ledger.like(a[0], a[1]);
-            case "pay": last = model.pay(a[0], a[1], a[2]); return ledger.pay(a[0], a[1], a[2]);
-            case "interest": last = model.interest(a[0]); return ledger.interest(a[0]);
-            case "owed": last = model.owed(a[0], a[1]); return ledger.owed(a[0], a[1]);
-            case "judgment": last = model.judgment(a[0], a[1]); return ledger.judgment(a[0], a[1]);
-            case "ground": last = model.ground(a[0], a[1] == 1); return ledger.ground(a[0], a[1] == 1);
-            case "standing": last = model.standing(); return ledger.standing();
-            case "falling": last = model.falling(a[0]); return ledger.falling(a[0]);
-            case "order": last = model.order(a[0], a[1]); return ledger.order(a[0], a[1]);
-            case "sheet": last = model.sheet(a[0], a[1], a[2]); return ledger.sheet(a[0], a[1], a[2]);
-            case "lose": last = model.lose(a[0]); return ledger.lose(a[0]);
-            case "put": last = model.put(a[0], a[1], a[2], a[3]); return ledger.put(a[0], a[1], a[2], a[3]);
-            case "get": last = model.get(a[0], a[1], a[2]); return ledger.get(a[0], a[1], a[2]);
-            case "copy": last = model.copy(a[0], a[1], a[2], a[3], a[4]);
-                return ledger.copy(a[0], a[1], a[2], a[3], a[4]);
-            case "write": last = model.write(a[0], a[1]); return ledger.write(a[0], a[1]);
-            default: last = model.count(a[0]); return ledger.count(a[0]);
-        }
+        return both.end();
     }
 
     private void ask(String name, int... arguments) {
-        if (calls >= CALLS) return;
-        StringBuilder told = new StringBuilder(name);
-        for (int argument : arguments) told.append(' ').append(argument);
-        long got = call(name, arguments);
-        due(told.toString(), got, last);
+        both.ask(name, arguments);
     }
 
     /** From the least to the most, now and then a little or far beyond. */
