@@ -113,14 +113,14 @@ public final class TrueLedger {
     }
 
     public int parting(int version, int other, int lines) {
-        return setMix(version, other, lines) ? seekParting(lines << 4 | other << 2 | version) : BAD;
+        return setMix(version, other, lines) ? seekParting(version, other, lines) : BAD;
     }
 
     public int event(int version, int other, int lines, int i) {
         if (i < 0 || !setMix(version, other, lines)) {
             return BAD;
         }
-        int length = seekParting(lines << 4 | other << 2 | version);
+        int length = seekParting(version, other, lines);
         return i < length && i < LONGEST_PARTING ? search.row[i] : NONE;
     }
 
@@ -154,8 +154,9 @@ public final class TrueLedger {
         return true;
     }
 
-    /** How long the LEAST PARTING of mix is; the number tells which MIX it is. */
-    private int seekParting(int mixNumber) {
+    /** How long the LEAST PARTING of mix is, that was set to these just now. */
+    private int seekParting(int version, int other, int lines) {
+        int mixNumber = lines << 4 | other << 2 | version;
         if (mixNumber != soughtMix) {
             partingLength = search.find(mix, LONGEST_PARTING);
             soughtMix = mixNumber;

@@ -240,6 +240,13 @@ final class CounterSentences {
         d.each("with a refund", fillsOf(x, 0, 0), 8, 1, 0, 0);
         d.each("below 0", fillsOf(with(SOUND, REFUND, REFUND, GAP), -3, -3), 8, 1, 0, 0);
         d.each("an empty LOG", fillsOf(with(SOUND), 0, 0), 1, 1, 0, 0);
+        // In MODE 0 four EVENTS do alike, in MODE 1 they do not.
+        TrueLedger modes = with("k0:m1;d0:c+9;a0:c+9;x0:c+9;t0:c+9;x1:c+5;t1:c+9", KEY, GAP);
+        d.each("MODE 1: TICK alone", fillsOf(modes, 0, 9), 8, 1, 0, 0);
+        d.each("MODE 1: LOST alone", fillsOf(modes, 0, 5), 8, 1, 0, 0);
+        d.each("MODE 1: KEY, SEND, ANSWER, BALANCE", fillsOf(modes, 0, 0), 8, 4, 2, 0);
+        Due.log(modes, 0, GAP);
+        d.each("MODE 0: SEND, ANSWER, LOST, TICK", fillsOf(modes, 0, 9), 8, 4, 0, 0);
         d.of(17, "(One FILL may be several of these.)");
         d.each("c is set anew: CLEAR and FROM AFAR", fillsOf(with("k0:c=0", KEY), 0, 0), 1, 1, 0, 1);
         d.of(17, "BAD.");

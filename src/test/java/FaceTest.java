@@ -25,6 +25,8 @@ public final class FaceTest {
     private static final String[] WORDS = {"throw", "throws", "try", "catch", "synchronized", "assert", "protected", "enum",
         "Exact", "->", "::", "\\bnew \\w+(<.*>)?\\(.*\\) \\{", "hashCode", "toString", "System\\.(?!arraycopy)", "random",
         "Integer\\.M", "String\\.format", "\\bvar\\b", "\\bstatic \\{"};
+    private static final String[] HEADINGS = {"versions: int type(", "counters: int counter(", "paid, owed: int pay(",
+        "judgments: int judgment(", "looking: int order(", "sheets: int sheet("};
     private static int wrong = 0;
 
     public static void main(String[] args) throws Exception {
@@ -98,6 +100,11 @@ public final class FaceTest {
         }
         Matcher imports = Pattern.compile("import [^;]*;").matcher(code);
         while (imports.find()) due("import", imports.group(), "import java.util.Arrays;");
+        for (String heading : HEADINGS) {
+            String[] words = heading.split(": ");
+            int at = text.indexOf("// ---- " + words[0] + "\n");
+            due("the first call behind ---- " + words[0], at >= 0 && text.startsWith("public " + words[1], text.indexOf("public", at)), true);
+        }
         int begun = 1, line = 0;
         for (String each : text.split("\n")) {
             line++;

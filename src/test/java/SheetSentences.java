@@ -294,12 +294,12 @@ final class SheetSentences {
         for (int c = 0; c < 12; c++) x.counter(0);
         Due.row(x, 0, 0, 1, 2, 3, 4, 5, 6, 7, 0, -1, -1, -1);
         for (int c = 0; c < 12; c++) x.log(c, 0, c == 0 ? 5 : 12);
-        for (int c = 1; c < 12; c++) x.claim(c, c == 1 ? 1 : 0, 1);
+        for (int c = 0; c < 12; c++) x.claim(c, c == 1 ? 1 : 0, 1);
         for (int n = 0; n < 40; n++) x.pay(n % 12, 0, 1);
         for (int n = 0; n < 16; n++) x.judgment(1, 0);
         for (int g = 0; g < 8; g++) x.ground(g, g == 6);
         x.interest(100);
-        d.each("full", counts(x), 121, 12, 5 + 11 * 12, 10, 40, 16, 1, 100, 0);
+        d.each("full", counts(x), 121, 12, 5 + 11 * 12, 11, 40, 16, 1, 100, 0);
         d.of(35, "BAD.");
         d.all("what", -2, x.count(-1), x.count(9), x.count(LEAST), x.count(MOST));
     }

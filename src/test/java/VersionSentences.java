@@ -226,6 +226,9 @@ final class VersionSentences {
         d.all("none", 0, x.differ(0, 2), x.differ(1, 1), x.differ(3, 3));
         TrueLedger y = with("s0:c+1;r0:c=0;k0:m0;d0:l+1,p+1;b0:c+1", "s0:c+1,m0;r0:c-c;k0:m0;d0:p+1,l+1;b0:c+1,c+1");
         d.is("text for text: what does the same, a beginning, another row", y.differ(0, 1), 1 | 4 | 1 << 6 | 1 << 14);
+        TrueLedger z = with("s0:c+1;r0:c-1;k0:c=l;d0:m0;b0:p=9", "b0:p=8;s0:l+1;r0:c+1;k0:c=p;d0:m1", "d0:m0;s0:c+1");
+        d.is("each byte of an ACT", z.differ(0, 1), 1 | 4 | 1 << 4 | 1 << 6 | 1 << 14);
+        d.is("wherever the part stands in the text", z.differ(0, 2), 4 | 1 << 4 | 1 << 14);
         d.of(6, "BAD.");
         d.all("the first", -2, x.differ(-1, 0), x.differ(4, 0), x.differ(LEAST, 0), x.differ(MOST, 0));
         d.all("the second", -2, x.differ(0, -1), x.differ(0, 4), x.differ(0, LEAST), x.differ(0, MOST));
@@ -377,6 +380,16 @@ final class VersionSentences {
         d.is("of the second's LINE 14", x.parting(0, 1, 1 << 14), 1);
         d.is("of its LINE 12", x.parting(0, 1, 1 << 12), 2);
         d.is("all of its LINES", x.parting(0, 1, 65535), 1);
+        // Rows that differ by MIX, so that none can be taken for another's.
+        TrueLedger y = with("", "s0:c+1", "s0:c+1;r0:c-1", "b0:c+1");
+        int[][] rows = {{0, 1, 0, SELL}, {0, 1, 1, REFUND}, {1, 0, 0, REFUND}, {1, 0, 1, SELL}, {0, 2, 1, REFUND}, {0, 0, 1, SELL},
+            {0, 2, 1, REFUND}, {0, 2, 0, SELL}, {0, 2, 5, -1}, {2, 0, 0, -1}, {2, 0, 4, REFUND}, {2, 0, 1, SELL}, {0, 3, 0, SELL}, {3, 0, 0, BALANCE}, {2, 1, 1, -1},
+            {1, 2, 4, -1}, {2, 3, 1 << 14, BALANCE}, {0, 3, 1 << 14, BALANCE}};
+        for (int[] a : rows) {
+            int length = a[3] == -1 ? -1 : a[3] == BALANCE ? 1 : 2;
+            d.is("of a MIX by " + a[2], y.parting(a[0], a[1], a[2]), length);
+            for (int[] b : rows) d.is("its first EVENT", y.event(b[0], b[1], b[2], 0), b[3]);
+        }
         d.of(8, "NONE.");
         d.is("the first alone", x.parting(0, 1, 0), -1);
         d.is("LINES that are told alike", x.parting(0, 1, 1 << 15), -1);
@@ -393,8 +406,13 @@ final class VersionSentences {
         d.is("the last", x.event(0, 0, 0, 1), BALANCE);
         d.is("of a MIX", x.event(0, 1, 1, 0), REFUND);
         d.is("of the next MIX", x.event(0, 2, 1, 0), SELL);
+        d.is("of the first again", x.event(0, 0, 0, 0), REFUND);
+        d.is("of the same, behind MENDED", x.mended(0, 1) + x.event(0, 0, 0, 0), 4 + REFUND);
         x.wipe(0);
         d.is("of a text that has changed", x.event(0, 0, 0, 0), SELL);
+        for (char b : "b0:c+1".toCharArray()) x.type(0, b);
+        d.is("of a text that has grown", x.event(0, 0, 0, 0), BALANCE);
+        x.wipe(0);
         d.of(9, "NONE: it is not so long, or there is none.");
         d.all("not so long", -1, x.event(0, 0, 0, 2), x.event(0, 0, 0, 5), x.event(0, 0, 0, MOST));
         d.all("there is none", -1, x.event(1, 1, 0, 0), x.event(1, 1, 0, MOST), x.event(0, 1, 65535, 0));
