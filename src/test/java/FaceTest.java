@@ -12,27 +12,21 @@ import java.util.TreeSet;
 import java.util.regex.Matcher;
 import java.util.regex.Pattern;
 
-/** The public face, and those rules of LANGUAGE.md that can be read off the class and its text. */
+/** The public face, as the document has it, and those rules of LANGUAGE.md that can be read off the class and its text. */
 public final class FaceTest {
-    private static final String[] FACE = {"int type(int,int)", "int wipe(int)", "int fault(int)", "int acts(int,int)",
-        "int differ(int,int)", "int run(int,int,int,int,int,int)", "int parting(int,int,int)", "int event(int,int,int,int)",
-        "int mended(int,int)", "int counter(int)", "int log(int,int,int)", "int claim(int,int,int)", "int about(int,int)",
-        "int tell(int,int,int)", "int logged(int,int)", "int fills(int,int)", "int causes(int)", "int settling(int,int)",
-        "int like(int,int)", "int pay(int,int,int)", "int interest(int)", "int owed(int,int)", "int judgment(int,int)",
-        "int ground(int,boolean)", "int standing()", "int falling(int)", "int order(int,int)", "int sheet(int,int,int)",
-        "int lose(int)", "int put(int,int,int,int)", "int get(int,int,int)", "int copy(int,int,int,int,int)",
-        "int write(int,int)", "int count(int)", "long digest()"};
     private static final String[] WORDS = {"throw", "throws", "try", "catch", "synchronized", "assert", "protected", "enum",
         "Exact", "->", "::", "\\bnew \\w+(<.*>)?\\(.*\\) \\{", "hashCode", "toString", "System\\.(?!arraycopy)", "random",
         "Integer\\.M", "String\\.format", "\\bvar\\b", "\\bstatic \\{"};
-    private static final String[] HEADINGS = {"versions: int type(", "counters: int counter(", "paid, owed: int pay(",
-        "judgments: int judgment(", "looking: int order(", "sheets: int sheet("};
     private static int wrong = 0;
 
     public static void main(String[] args) throws Exception {
-        face();
+        String document = Files.readString(Path.of("../shared/DOC.md"));
+        String text = Files.readString(Path.of("src/main/java/TrueLedger.java"));
+        face(document, text);
+        constants(document);
+        headings(document, text);
         members();
-        text();
+        text(text);
         System.out.println("FaceTest: " + wrong + " not as due");
         if (wrong != 0) System.exit(1);
     }
@@ -44,7 +38,8 @@ public final class FaceTest {
         }
     }
 
-    private static void face() {
+    /** The methods of the document, just as it writes them, and no others. */
+    private static void face(String document, String text) {
         Class<?> it = TrueLedger.class;
         due("the class", Modifier.toString(it.getModifiers()), "public final");
         Set<String> methods = new TreeSet<>();
@@ -53,19 +48,50 @@ public final class FaceTest {
             due("modifiers of " + m.getName(), Modifier.toString(m.getModifiers()), "public");
             List<String> parameters = new ArrayList<>();
             for (Class<?> p : m.getParameterTypes()) parameters.add(p.getName());
-            methods.add(m.getReturnType().getName() + " " + m.getName() + "(" + String.join(",", parameters) + ")");
+            methods.add(m.getReturnType().getName() + " " + m.getName() + "(" + String.join(", ", parameters) + ")");
         }
-        due("the methods", methods, new TreeSet<>(Arrays.asList(FACE)));
-        Set<String> fields = new TreeSet<>();
-        for (Field f : it.getDeclaredFields()) {
-            if (Modifier.isPrivate(f.getModifiers())) continue;
-            due("modifiers of " + f.getName(), Modifier.toString(f.getModifiers()), "public static final");
-            fields.add(f.getName());
+        Set<String> told = new TreeSet<>();
+        Matcher m = Pattern.compile("\n    (public (\\w+ \\w+\\(.*\\)));").matcher(document);
+        while (m.find()) {
+            told.add(m.group(2).replaceAll("(\\w+) \\w+([,)])", "$1$2"));
+            due("the text has " + m.group(1), text.contains("\n    " + m.group(1) + " {\n"), true);
         }
-        due("the constants", fields.toString(), "[BAD, FULL, NONE, NOT]");
+        due("methods that the document has", told.size(), 35);
+        due("the methods", methods, told);
         Constructor<?>[] constructors = it.getDeclaredConstructors();
         due("constructors", constructors.length, 1);
         due("the constructor", constructors[0].toString(), "public TrueLedger()");
+    }
+
+    private static void constants(String document) throws Exception {
+        Set<String> constants = new TreeSet<>();
+        for (Field f : TrueLedger.class.getDeclaredFields()) {
+            if (Modifier.isPrivate(f.getModifiers())) continue;
+            due("modifiers of " + f.getName(), Modifier.toString(f.getModifiers()), "public static final");
+            constants.add(f.getType() + " " + f.getName() + " = " + f.get(null));
+        }
+        Set<String> told = new TreeSet<>();
+        Matcher m = Pattern.compile("\n    public static final int (.*);").matcher(document);
+        while (m.find()) for (String each : m.group(1).split(", ")) told.add("int " + each);
+        due("the constants", constants, told);
+        due("how many", told.size(), 4);
+    }
+
+    /** What the interface says ahead of some calls stands ahead of just these, in their order. */
+    private static void headings(String document, String text) {
+        Matcher m = Pattern.compile("Ahead of the calls (.*) the interface says: (---- .*)\\.").matcher(document);
+        int headings = 0;
+        while (m.find()) {
+            headings++;
+            String[] chapters = text.split("// " + m.group(2) + "\n");
+            due(m.group(2) + " stands once", chapters.length, 2);
+            if (chapters.length != 2) continue;
+            List<String> calls = new ArrayList<>();
+            Matcher call = Pattern.compile("\n    public \\w+ (\\w+)\\(").matcher(chapters[1].split("// ---- ")[0]);
+            while (call.find()) calls.add("`" + call.group(1) + "`");
+            due("calls behind " + m.group(2), String.join(", ", calls), m.group(1));
+        }
+        due("headings", headings, 6);
     }
 
     private static void members() {
@@ -91,8 +117,7 @@ public final class FaceTest {
         }
     }
 
-    private static void text() throws Exception {
-        String text = Files.readString(Path.of("src/main/java/TrueLedger.java"));
+    private static void text(String text) {
         String code = text.replaceAll("(?s)/\\*.*?\\*/", "").replaceAll("//[^\n]*", "");
         for (String word : WORDS) {
             Matcher m = Pattern.compile(Character.isLetter(word.charAt(0)) ? "\\b" + word : word).matcher(code);
@@ -100,11 +125,6 @@ public final class FaceTest {
         }
         Matcher imports = Pattern.compile("import [^;]*;").matcher(code);
         while (imports.find()) due("import", imports.group(), "import java.util.Arrays;");
-        for (String heading : HEADINGS) {
-            String[] words = heading.split(": ");
-            int at = text.indexOf("// ---- " + words[0] + "\n");
-            due("the first call behind ---- " + words[0], at >= 0 && text.startsWith("public " + words[1], text.indexOf("public", at)), true);
-        }
         int begun = 1, line = 0;
         for (String each : text.split("\n")) {
             line++;

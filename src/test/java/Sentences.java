@@ -8,13 +8,13 @@ import java.util.regex.Pattern;
 
 /**
  * Answers held against sentences of the document. A test names the promise and the sentence that it is about in the
- * document's own words; at the end there must be no sentence of the Terms or of a promise that no test has named.
+ * document's own words; at the end there must be no sentence of What it is, the Terms or a promise that no test has named.
  */
 final class Sentences {
-    private static final int PROMISES = 36, TERMS = 0;
+    private static final int PROMISES = 36, TERMS = 0, WHAT_IT_IS = PROMISES + 1, PLACES = PROMISES + 2;
 
-    private final String[] texts = new String[PROMISES + 1];
-    private final boolean[][] isNamed = new boolean[PROMISES + 1][];
+    private final String[] texts = new String[PLACES];
+    private final boolean[][] isNamed = new boolean[PLACES][];
     private final List<String> unanswered = new ArrayList<>();
     private String current = "";
     private int sentences = 0;
@@ -28,7 +28,8 @@ final class Sentences {
             String section = between(text, "\n## Promise " + p + ":", "\n## ");
             texts[p] = plain(section.substring(section.indexOf("`:") + 2));
         }
-        for (int p = 0; p <= PROMISES; p++) isNamed[p] = new boolean[texts[p].length()];
+        texts[WHAT_IT_IS] = plain(between(text, "\n## What it is\n", "\n## "));
+        for (int p = 0; p < PLACES; p++) isNamed[p] = new boolean[texts[p].length()];
     }
 
     private static String between(String text, String begin, String end) {
@@ -45,13 +46,26 @@ final class Sentences {
 
     /** What is told next is about a sentence of a promise, or of the Terms as that promise shows it. */
     void of(int promise, String sentence) {
-        current = "promise " + promise + ", \"" + sentence + "\"";
+        begin(promise, sentence, isFound(promise, sentence) || isFound(TERMS, sentence));
+    }
+
+    /** What is told next is about a sentence of What it is. */
+    void ofWhole(String sentence) {
+        begin(WHAT_IT_IS, sentence, isFound(WHAT_IT_IS, sentence));
+    }
+
+    private void begin(int where, String sentence, boolean isSaid) {
+        current = nameOf(where) + ", \"" + sentence + "\"";
         sentences++;
         unanswered.add(current);
-        if (!isFound(promise, sentence) && !isFound(TERMS, sentence)) {
+        if (!isSaid) {
             wrong++;
             System.out.println(current + ": the document does not say so");
         }
+    }
+
+    private static String nameOf(int where) {
+        return where == TERMS ? "Terms" : where == WHAT_IT_IS ? "What it is" : "promise " + where;
     }
 
     private boolean isFound(int where, String sentence) {
@@ -90,13 +104,13 @@ final class Sentences {
     }
 
     private void findUnnamed() {
-        for (int p = 0; p <= PROMISES; p++) {
+        for (int p = 0; p < PLACES; p++) {
             StringBuilder rest = new StringBuilder();
             for (int i = 0; i < texts[p].length(); i++) rest.append(isNamed[p][i] ? ' ' : texts[p].charAt(i));
             for (String words : rest.toString().split(" {2,}")) {
                 if (!words.matches(".*[A-Za-z0-9].*")) continue;
                 wrong++;
-                System.out.println((p == TERMS ? "Terms" : "promise " + p) + ": no test names \"" + words.trim() + "\"");
+                System.out.println(nameOf(p) + ": no test names \"" + words.trim() + "\"");
             }
         }
     }

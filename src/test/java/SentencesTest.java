@@ -4,6 +4,7 @@ import java.nio.file.Path;
 public final class SentencesTest {
     public static void main(String[] args) throws Exception {
         Sentences d = new Sentences(Path.of("../shared/DOC.md"));
+        new WholeSentences(d).tell();
         new VersionSentences(d).tell();
         new CounterSentences(d).tell();
         new OwedSentences(d).tell();

@@ -23,7 +23,6 @@ final class SheetSentences {
         count();
         digest();
         refusals();
-        calls();
     }
 
     /** SHEETS 0, 1, 2 of TYPES 0, 1, 2 with n items each; SHEET 3 is LOST. */
@@ -363,12 +362,5 @@ final class SheetSentences {
         x.sheet(0, 0, -1);
         d.is("the FINDING", x.count(8), SIZE);
         d.same(before, x);
-    }
-
-    /** An object is used for 512 calls; within them none may tire. */
-    private void calls() {
-        d.of(29, "A SHEET is a new row of a TYPE with n items: n.");
-        TrueLedger x = new TrueLedger();
-        for (int n = 0; n < 512; n++) d.is("call " + n, x.sheet(n % 4, n % 3, n % 41), n % 41);
     }
 }

@@ -371,6 +371,12 @@ final class VersionSentences {
         TrueLedger six = with(SOUND + ";k0:m1;x1:l=1;d1:p=l;t1:m0;a0:c+p");
         parts(six);
         d.is("a row of six does PART", end(six, PARTS, KEY, LOST, SEND, TICK, ANSWER, BALANCE), 1);
+        // No two of its rows of up to three EVENTS end alike, and BALANCE shows of l only what is above 90: the last row of all.
+        TrueLedger allUnlike = with("s0:c+1,l-6,p-l,p+8;r0:c-1,l+7,p-l,p+6;k0:p-l,l+5;d0:p-l,l-4,p-5;a0:p-l,l+9,l+4,p+1",
+            "x0:p-l,l+2,p+7;t0:l+9,l+8,p-l,p-1;b0:c+l,c+9,c-9,c-l,l+9,l+9,l+6,p+3");
+        int fromSecond = 1 << 2 * LOST | 1 << 2 * TICK | 1 << 2 * BALANCE;
+        d.is("the last row of five", allUnlike.parting(0, 1, fromSecond), 5);
+        for (int i = 0; i < 5; i++) d.is("its EVENT " + i, allUnlike.event(0, 1, fromSecond, i), BALANCE);
         d.of(8, "of like ones the least (the first EVENT compared first).");
         parts(with(SOUND + ";k0:l=1;t0:c+l;d0:p=1;x0:c+p"), KEY, TICK, BALANCE);
         parts(with(SOUND + ";x0:l=1;t0:c+l;d0:p=1;a0:c+p"), SEND, ANSWER, BALANCE);
